@@ -276,14 +276,14 @@ public final class MineReasoner {
         return group;
     }
 
-    // False on a clash. A clash never goes away by deciding more, so it is found in whatever order cells are looked at.
+    // False on a clash. Deciding more never takes a clash away, so the order in which cells are looked at is free.
     private boolean applyRules(boolean withPairs) {
         knownMined = 0;
         knownFree = 0;
         // Each round but the last decides a cell at least.
         for (int round = 0; round <= CELLS; round++) {
             int before = knownMined | knownFree;
-            if (!applyRule1() || withPairs && !applyRule2()) {
+            if (!applyRule1() || (withPairs && !applyRule2())) {
                 return false;
             }
             if ((knownMined | knownFree) == before) {
@@ -309,22 +309,20 @@ public final class MineReasoner {
     private boolean applyRule2() {
         for (int a = 0; a < CELLS; a++) {
             for (int b = 0; b < CELLS; b++) {
-                if (a != b && has(shown, a) && has(shown, b) && !settlePair(a, b)) {
-                    return false;
+                if (a == b || !has(shown, a) || !has(shown, b)) {
+                    continue;
+                }
+                int openA = openOf(a);
+                int openB = openOf(b);
+                if ((openA & ~openB) == 0) {
+                    int more = leftOf(b) - leftOf(a);
+                    if (!settle(openB & ~openA, more)) {
+                        return false;
+                    }
                 }
             }
         }
         return true;
-    }
-
-    private boolean settlePair(int a, int b) {
-        int openA = openOf(a);
-        int openB = openOf(b);
-        if ((openA & ~openB) != 0) {
-            return true;
-        }
-        int more = leftOf(b) - leftOf(a);
-        return settle(openB & ~openA, more);
     }
 
     // Decides open cells of which this many are mined, if that tells all of them; false if so many can't be.

@@ -217,6 +217,14 @@ public final class PromisesTest {
     MineReasoner y = new MineReasoner();
     y.total(20);
     due("best() with all mined", y.best(), 0);
+    y.total(0);
+    y.show(0, 0);
+    due("best() with none mined, after all were", y.best(), 1);
+    y.total(1);
+    due("best() with one mined, after all were", y.best(), 1);
+    y.show(0, 1);
+    due("best() with the one mined at the corner", y.best(), 2);
+    due("best() again", y.best(), 2);
   }
 
   private static void clues() {
@@ -326,6 +334,16 @@ public final class PromisesTest {
     due("decided(19)", z.decided(19), NONE);
     due("simple()", z.simple(), 0);
     due("decided(1) after simple()", z.decided(1), NONE);
+    z.show(0, 3);
+    due("decided(1) with 3", z.decided(1), 1);
+    z.show(0, 0);
+    due("decided(1) with 0, after 3", z.decided(1), 0);
+    z.show(0, 1);
+    due("decided(1) with 1, after 0", z.decided(1), NONE);
+    z.show(0, 4);
+    due("decided(1) with 4", z.decided(1), CLASH);
+    z.cover(0);
+    due("decided(1) with all covered", z.decided(1), NONE);
   }
 
   private static void order() {
