@@ -18,6 +18,8 @@ public final class MineReasoner {
     private static final int KINDS = CELLS + 1;
     // A cell is counted by the clues of at most eight neighbours and by the total.
     private static final int LINKS = MAX_CLUE + 1;
+    private static final int ALL_LINKS = KINDS * LINKS;
+    private static final int LEVELS = KINDS + 1;
     // A search can't need more than seven steps for each set of cells; it needs some thousands at most.
     private static final int MAX_STEPS = 8 << CELLS;
 
@@ -44,8 +46,8 @@ public final class MineReasoner {
     private int listed;
 
     // For each kind the clues that count it, and for each of these how many cells of later kinds it counts.
-    private final int[] links = new int[KINDS * LINKS];
-    private final int[] laterRoom = new int[KINDS * LINKS];
+    private final int[] links = new int[ALL_LINKS];
+    private final int[] laterRoom = new int[ALL_LINKS];
     private final int[] linkEnd = new int[KINDS];
 
     // For each kind the mines that the search has put there and their greatest number, the layouts counted before
@@ -53,10 +55,10 @@ public final class MineReasoner {
     private final int[] taken = new int[KINDS];
     private final int[] most = new int[KINDS];
     private final int[] countBefore = new int[KINDS];
-    private final int[] ways = new int[KINDS + 1];
+    private final int[] ways = new int[LEVELS];
 
     // What the last search was for and what it found, with the mines of each kind summed over all layouts. It is
-    // kept until the field changes, since questions often follow each other with no change between them.
+    // kept until a clue changes, since questions often follow each other with no change between them.
     private final int[] minesIn = new int[KINDS];
     private int count;
     private int numbers;
@@ -102,7 +104,6 @@ public final class MineReasoner {
         }
         int before = total;
         total = n;
-        counted = false;
         return before;
     }
 

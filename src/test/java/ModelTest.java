@@ -274,7 +274,21 @@ public final class ModelTest {
     }
   }
 
+  /** A field told as cell, clue, cell, clue and so on. */
+  private static void fixedRun(int... told) {
+    MineReasoner x = new MineReasoner();
+    ModelTest model = new ModelTest();
+    for (int i = 0; i < told.length; i += 2) model.show(x, told[i], told[i + 1]);
+    model.compareGroups(x);
+    model.compareRules(x);
+    model.compareLayouts(x);
+  }
+
   public static void main(String[] args) {
+    // Long chains, in which each cell decided tells the next one: eight of rule 1, seven of both, four within a group.
+    fixedRun(1, 2, 4, 1, 5, 1, 7, 3, 11, 2, 15, 1, 17, 2, 18, 2, 19, 2);
+    fixedRun(0, 2, 2, 2, 7, 3, 9, 2, 10, 2, 13, 2, 14, 1, 17, 3);
+    fixedRun(0, 1, 1, 2, 2, 2, 5, 2, 10, 4, 17, 3, 18, 2);
     for (int run = 0; run < 60; run++) longRun(1 + run % 5);
     for (int run = 0; run < 3000; run++) wildRun();
     System.out.println(compared + " answers compared; fields without layouts " + seen[0] + ", with " + seen[1]
