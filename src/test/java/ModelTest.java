@@ -21,6 +21,7 @@ public final class ModelTest {
 
   private final int[] clue = new int[CELLS];
   private int total = -1;
+  private int calls = 0;
   private final List<boolean[]> found = new ArrayList<>();
 
   private ModelTest() {
@@ -147,8 +148,11 @@ public final class ModelTest {
     return count;
   }
 
+  /** Each call of the object comes by here, and what an object answers after 512 calls is free. */
   private void due(String call, int got, int want) {
     compared++;
+    calls++;
+    if (calls == 513) throw new IllegalStateException("a run of this test has more than 512 calls");
     if (got == want) return;
     wrong++;
     if (wrong <= 50) System.out.println("clues " + java.util.Arrays.toString(clue) + ", total " + total + ": " + call + " answered " + got + ", due is " + want);
@@ -249,8 +253,9 @@ public final class ModelTest {
     ModelTest model = new ModelTest();
     boolean[] mines = new boolean[CELLS];
     for (int c = 0; c < CELLS; c++) mines[c] = CHANCE.nextInt(10) < chanceOfMine;
-    for (int i = 0; i < 6; i++) model.step(x, mines);
-    for (int i = 0; i < 12; i++) {
+    int steps = 6 + CHANCE.nextInt(10);
+    for (int i = 0; i < steps; i++) model.step(x, mines);
+    for (int i = 0; i < 5; i++) {
       model.step(x, mines);
       int shown = 0;
       for (int n : model.clue) if (n >= 0) shown++;
@@ -289,7 +294,7 @@ public final class ModelTest {
     fixedRun(1, 2, 4, 1, 5, 1, 7, 3, 11, 2, 15, 1, 17, 2, 18, 2, 19, 2);
     fixedRun(0, 2, 2, 2, 7, 3, 9, 2, 10, 2, 13, 2, 14, 1, 17, 3);
     fixedRun(0, 1, 1, 2, 2, 2, 5, 2, 10, 4, 17, 3, 18, 2);
-    for (int run = 0; run < 60; run++) longRun(1 + run % 5);
+    for (int run = 0; run < 150; run++) longRun(1 + run % 5);
     for (int run = 0; run < 3000; run++) wildRun();
     System.out.println(compared + " answers compared; fields without layouts " + seen[0] + ", with " + seen[1]
         + "; rule 1 clashes " + seen[2] + ", only rule 2 clashes " + seen[3] + ", rule 2 decides more " + seen[4] + ", no more " + seen[5]);
