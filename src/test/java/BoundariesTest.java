@@ -497,7 +497,7 @@ public final class BoundariesTest {
     due("clues(2), at most 5", x.clues(2), 63);
     due("clues(10), at most 5", x.clues(10), 63);
     due("clues(12), at most 8", x.clues(12), 511);
-    due("clues(12) with total 0", withTotal(0).clues(12), 1);
+    for (int c = 0; c < CELLS; c++) due("clues(" + c + ") with total 0, asked first", withTotal(0).clues(c), 1);
     due("clues(12) with total 1", withTotal(1).clues(12), 3);
     due("clues(12) with total 8", withTotal(8).clues(12), 511);
     due("clues(12) with total 12", withTotal(12).clues(12), 511 - 1);

@@ -8,7 +8,6 @@ public final class TermsTest {
   private static final int BAD_ARG = -1;
   private static final int NONE = -2;
   private static final int CLASH = -3;
-  private static final int ALL = (1 << 20) - 1;
 
   /** Just outside, and numbers that would be cells, clues or totals if some of their bits were dropped. */
   private static final int[] NO_CELLS = {-1, -2, -3, -5, -20, -32, 20, 21, 24, 25, 31, 32, 51, 64, 256, 65536,
@@ -327,6 +326,11 @@ public final class TermsTest {
     due("simple()", y.simple(), 7);
     for (int c : new int[] {1, 5, 6, 9}) due("decided(" + c + ")", y.decided(c), 0);
     for (int c : new int[] {3, 7, 8}) due("decided(" + c + ")", y.decided(c), 1);
+    // 13 frees 8 and 9, then 2 has 3 mined: for 4 nothing is open any more. The same turned upside down.
+    due("simple() with none open and nothing left", field(2, 3, 4, 1, 13, 0).simple(), 11);
+    due("simple() with none open and 1 left", field(2, 3, 4, 2, 13, 0).simple(), CLASH);
+    due("paired() with none open and 1 left", field(2, 3, 4, 2, 13, 0).paired(), CLASH);
+    due("simple() with none open and 1 left, turned", field(17, 3, 19, 2, 8, 0).simple(), CLASH);
   }
 
   private static void clashBelow0() {
@@ -586,12 +590,16 @@ public final class TermsTest {
     }
   }
 
-  /** The answers to all questions, the total among them. */
+  /** The clues and the total, and then the answers to all other questions, with the total and without. */
   private static int[] answers(MineReasoner x) {
-    int[] all = new int[132];
+    int[] all = new int[130];
     int at = 0;
+    for (int c = 0; c < 20; c++) all[at++] = x.clue(c);
+    int total = x.total(-1);
+    all[at++] = total;
+    all[at++] = x.layouts();
+    x.total(total);
     for (int c = 0; c < 20; c++) {
-      all[at++] = x.clue(c);
       all[at++] = x.groupOf(c);
       all[at++] = x.mined(c);
       all[at++] = x.clues(c);
@@ -605,8 +613,6 @@ public final class TermsTest {
     all[at++] = x.best();
     all[at++] = x.simple();
     all[at++] = x.paired();
-    all[at++] = x.total(-1);
-    all[at++] = x.layouts();
     return all;
   }
 
@@ -654,7 +660,10 @@ public final class TermsTest {
     changesNothing("clue(7)", NONE, 1, x -> x.clue(7));
     changesNothing("best()", NONE, 2, MineReasoner::best);
     changesNothing("best()", NONE, 3, MineReasoner::best);
+    changesNothing("best()", NONE, 4, MineReasoner::best);
+    changesNothing("best()", NONE, 5, MineReasoner::best);
     changesNothing("simple()", CLASH, 2, MineReasoner::simple);
+    changesNothing("simple()", CLASH, 5, MineReasoner::simple);
     changesNothing("paired()", CLASH, 4, MineReasoner::paired);
     changesNothing("decided(0)", CLASH, 4, x -> x.decided(0));
     changesNothing("decided(0)", CLASH, 5, x -> x.decided(0));
